@@ -1,0 +1,239 @@
+/** Promises 3, 11 and 12: css, rules, value; STYLE SHEET. */
+public final class SheetTest {
+    private static final Check CHECK = new Check();
+
+    public static void main(String[] args) {
+        typing();
+        selectors();
+        ruleLimit();
+        fitting();
+        declarations();
+        strongest();
+        defaults();
+        wrongQuestions();
+        CHECK.end();
+    }
+
+    private static void typing() {
+        PlainPage page = Check.page("a", "p{c:1}");
+        page.layout(5);
+        for (int c : new int[] {0, 9, 31, 127, 200, 65535}) {
+            CHECK.holds("css refuses " + c, !page.css((char) c));
+        }
+        CHECK.same("layout after refusals", page.lines(), 1);
+        CHECK.holds("css takes 32", page.css(' '));
+        CHECK.same("layout after css", page.lines(), -1);
+        CHECK.same("box after css", page.box(0, 0), -1);
+        CHECK.holds("css takes 126", page.css('~'));
+        page = new PlainPage();
+        CHECK.same("120 are taken", Check.css(page, Check.repeat(" ", 116) + "p{} x"), 120);
+        CHECK.same("rules at 120", page.rules(), 1);
+        page = Check.page("a", Check.repeat(" ", 118) + "p{");
+        page.layout(5);
+        CHECK.holds("the 121st is refused", !page.css('}'));
+        CHECK.same("rules behind it", page.rules(), 0);
+        CHECK.same("layout behind it", page.lines(), 1);
+    }
+
+    private static void rules(String css, int rules) {
+        CHECK.same("rules of " + css, Check.page("", css).rules(), rules);
+    }
+
+    private static void selectors() {
+        String[] right = {"a", "*", "A", "*A", "aAB", "AA", " a ", "a b", "a  b   c d", "a>b",
+            "a > b", "a> b", "a >b", "A A", "a>b c>d", "* *", "A>B", "  a  >  b  ", "zZ"};
+        for (String selector : right) {
+            rules(selector + "{}", 1);
+        }
+        String[] wrong = {"", " ", "a b c d e", "a>b>c>d>e", "a>", ">a", "a>>b", "a> >b", "ab", "Ab",
+            "a*", "**", "A*", "a,b", ".A", "}a", "a}", "a}b", "a;", "1", ">", "a b>", "a1"};
+        for (String selector : wrong) {
+            rules(selector + "{c:1}", 0);
+        }
+        rules("a{", 0);
+        rules("a{c:1", 0);
+        rules("a{}b{}c{", 2);
+        rules("a{{}", 1);
+        rules("a{b{c}", 1);
+        rules("a{}}b{}", 1);
+        rules("}{}a{}", 1);
+        rules("a{c:1};b{}", 1);
+    }
+
+    private static void ruleLimit() {
+        rules(Check.repeat("a{}", 12), 12);
+        rules(Check.repeat("a{}", 13), 12);
+        rules(Check.repeat("a{}", 40), 12);
+        rules(Check.repeat("1{}", 20) + Check.repeat("a{}", 11), 11);
+        value("<b>", Check.repeat("a{}", 11) + "b{c:5}", 'c', 5);
+        value("<b>", Check.repeat("a{}", 12) + "b{c:5}", 'c', 1);
+        value("<b>", Check.repeat("a{}", 11) + "1{}b{c:5}b{c:6}", 'c', 5);
+    }
+
+    /** Asks for a value of the last node. */
+    private static void value(String html, String css, char property, int want) {
+        PlainPage page = Check.page(html, css);
+        int got = page.value(page.nodes() - 1, property);
+        CHECK.same(property + " of the last of " + html + " by " + css, got, want);
+    }
+
+    private static void fits(String html, String selector, boolean is) {
+        value(html, selector + "{m:7}", 'm', is ? 7 : 0);
+    }
+
+    private static void fitting() {
+        fits("<b>", "b", true);
+        fits("<b>", "i", false);
+        fits("<b>", "*", true);
+        fits("<bAC>", "A", true);
+        fits("<bAC>", "AC", true);
+        fits("<bAC>", "ABC", false);
+        fits("<bAC>", "bCA", true);
+        fits("<bAC>", "iA", false);
+        fits("<bAC>", "*C", true);
+        fits("<bZ>", "Z", true);
+        fits("<d><b>", "d b", true);
+        fits("<d><a><b>", "d b", true);
+        fits("<d><b>", "d>b", true);
+        fits("<d><a><b>", "d>b", false);
+        fits("<b>", "*>b", false);
+        fits("<b>", "* b", false);
+        fits("<b>", "b b", false);
+        fits("<b>", "b>b", false);
+        fits("<dA><d><b>", "dA b", true);
+        fits("<dA><d><b>", "dA>b", false);
+        fits("<d><a><x><b>", "d>a b", true);
+        fits("<d><x><a><b>", "d>a b", false);
+        fits("<d><a><x><a><b>", "d>a b", true);
+        fits("<d><a><x><a><b>", "d>a>b", false);
+        fits("<d><x><a><y><b>", "d a b", true);
+        fits("<d><x><a><y><b>", "d>x a>y b", false);
+        fits("<d><x><a><y><b>", "d>x a b", true);
+        fits("<d><x><a><y><b>", "d>x>a>y", false);
+        fits("<x><a><y><b>", "x>a>y>b", true);
+        fits("<a><x><a><x><y><b>", "a>x>y b", true);
+        fits("<t><d>x</t><b>", "t b", false);
+    }
+
+    private static void declared(String body, char property, int want) {
+        value("<z>", "z{" + body + "}", property, want);
+    }
+
+    private static void declarations() {
+        declared("c:0", 'c', 0);
+        declared("c:9", 'c', 9);
+        declared("b:9", 'b', 9);
+        declared("s:9", 's', 9);
+        declared("s:0", 's', 1);
+        declared("d:b", 'd', 'b');
+        declared("d:n", 'd', 'n');
+        declared("d:i", 'd', 'i');
+        declared("m:99", 'm', 99);
+        declared("m:05", 'm', 5);
+        declared("p:7", 'p', 7);
+        declared("w:12", 'w', 12);
+        declared("w:0", 'w', 0);
+        declared(" m : 1 2 ! ", 'm', 12);
+        declared("m:1;m:2", 'm', 2);
+        declared("m:1;m:", 'm', 1);
+        declared(";;m:1;;", 'm', 1);
+        declared("{m:1", 'm', 0);
+        declared("{;m:1", 'm', 1);
+        declared("m:3;b{m:1", 'm', 3);
+        String[] wrong = {"m:", "m", "m:100", "m:x", "m:1x", "m:-1", "m:1!!", "m:!", "m!:1", "m1",
+            "mm:1", ":1", "m::1", "m:!1", "!m:1", "M:1", "m=1", "m:1:"};
+        for (String body : wrong) {
+            declared(body, 'm', 0);
+        }
+        declared("c:12", 'c', 1);
+        declared("c:a", 'c', 1);
+        declared("b:12", 'b', 0);
+        declared("s:11", 's', 1);
+        declared("d:x", 'd', 'i');
+        declared("d:bb", 'd', 'i');
+        declared("d:1", 'd', 'i');
+        declared("w:100", 'w', -1);
+        declared("c:3;c:12;q:1", 'c', 3);
+    }
+
+    private static void strongest() {
+        value("<b>", "b{m:1}b{m:2}", 'm', 2);
+        value("<b>", "b{m:1}*{m:2}", 'm', 1);
+        value("<bA>", "A{m:1}b{m:2}", 'm', 1);
+        value("<bA>", "bA{m:1}A{m:2}", 'm', 1);
+        value("<bA>", "A{m:1}*A{m:2}", 'm', 2);
+        value("<bAB>", "AB{m:1}bA{m:2}", 'm', 1);
+        value("<bA>", "AA{m:1}bA{m:2}", 'm', 1);
+        value("<d><a><bA>", "A{m:1}d a b{m:2}", 'm', 1);
+        value("<dA><bA>", "A A{m:1}bA{m:2}", 'm', 1);
+        value("<d><b>", "d b{m:1}b{m:2}", 'm', 1);
+        value("<d><b>", "d>b{m:1}d b{m:2}", 'm', 2);
+        value("<d><b>", "* b{m:1}b{m:2}", 'm', 2);
+        value("<bA>", "b{m:1!}A{m:2}", 'm', 1);
+        value("<bA>", "b{m:1!}A{m:2!}", 'm', 2);
+        value("<b>", "b{m:1!;m:2}", 'm', 1);
+        value("<b>", "b{m:1!;m:2!}", 'm', 2);
+        value("<b>", "b{m:1!}b{m:2!}b{m:3}", 'm', 2);
+        value("<b>", "b{m:1!;c:2}b{c:3;m:4}", 'c', 3);
+        value("<bA>", "A{m:1}b{m:2;c:4}", 'c', 4);
+        value("<b>", "b{m:1}i{m:2!}", 'm', 1);
+        value("<d><b>", "d{c:5!}b{c:6}", 'c', 6);
+        value("<d><b>", "d{c:5;s:4;b:3;m:2;p:1;w:9;d:n}", 'c', 5);
+    }
+
+    private static void defaults() {
+        value("<b>", "", 'c', 1);
+        value("<b>", "", 's', 1);
+        value("<b>", "", 'b', 0);
+        value("<b>", "", 'm', 0);
+        value("<b>", "", 'p', 0);
+        value("<b>", "", 'w', -1);
+        String css = "d{c:5;s:4;b:3;m:2;p:1;w:9;d:n}";
+        value("<d><a><b>", css, 'c', 5);
+        value("<d><a><b>", css, 's', 4);
+        value("<d><a><b>", css, 'b', 0);
+        value("<d><a><b>", css, 'm', 0);
+        value("<d><a><b>", css, 'p', 0);
+        value("<d><a><b>", css, 'w', -1);
+        value("<d><a><b>", css, 'd', 'i');
+        value("<d><a>x</d><b>", css, 'c', 1);
+        for (String tag : "p d u l h t".split(" ")) {
+            value("<" + tag + ">", "", 'd', 'b');
+        }
+        for (String tag : "p d u l h".split(" ")) {
+            value("<" + tag + ">", "*{d:i}", 'd', 'i');
+        }
+        for (String tag : "b i s k a z".split(" ")) {
+            value("<" + tag + ">", "", 'd', 'i');
+        }
+        for (String html : "<t> <t><r> <t><c>".split(" ")) {
+            value(html, "", 'd', 'b');
+            value(html, "*{d:i}", 'd', 'b');
+            value(html, "*{d:i!}", 'd', 'b');
+            value(html, "*{d:n}", 'd', 'n');
+        }
+    }
+
+    private static void wrongQuestions() {
+        PlainPage page = Check.page("x<b>", "*{m:3}");
+        CHECK.same("value of ROOT", page.value(0, 'm'), -1);
+        CHECK.same("value of a text", page.value(1, 'm'), -1);
+        CHECK.same("value of an element", page.value(2, 'm'), 3);
+        for (int n : new int[] {-1, 3, 24, Integer.MAX_VALUE, Integer.MIN_VALUE}) {
+            CHECK.same("value of node " + n, page.value(n, 'm'), -1);
+        }
+        for (char property : "aMx: 0".toCharArray()) {
+            CHECK.same("value of property " + property, page.value(2, property), -1);
+        }
+        CHECK.same("value of property 0", page.value(2, (char) 0), -1);
+        CHECK.same("value of property 65535", page.value(2, (char) 65535), -1);
+        page.css('*');
+        CHECK.same("value in half a rule", page.value(2, 'm'), 3);
+        Check.css(page, "{m:4");
+        CHECK.same("value before the '}'", page.value(2, 'm'), 3);
+        page.css('}');
+        CHECK.same("value behind the '}'", page.value(2, 'm'), 4);
+        Check.html(page, "<dA>");
+        CHECK.same("value of a later element", page.value(3, 'm'), 4);
+    }
+}
