@@ -396,6 +396,7 @@ public final class PlainPage {
             }
         }
 
+        /** TOP: there always is one, since ROOT is never taken out. */
         Node top() {
             return items[size - 1];
         }
@@ -462,9 +463,9 @@ public final class PlainPage {
             takeOut(indexOf(node) + 1, size);
         }
 
-        /** Takes out those from one index on, up to another; those above come down. */
+        /** Takes out those from one index on, up to another, but never ROOT. */
         void takeOut(int from, int to) {
-            if (from < 0 || from >= to || to > size) {
+            if (from < 1 || from >= to || to > size) {
                 return;
             }
             for (int i = from; i < to; i++) {
@@ -1229,7 +1230,6 @@ public final class PlainPage {
             lineStart = wordStart;
             usedWidth = 0;
             lineHeight = 0;
-            gap = NONE;
             hasLines = true;
             allLines++;
         }

@@ -12,6 +12,8 @@ public final class LayoutTest {
         rows();
         inline();
         hidden();
+        movedElements();
+        anotherLayout();
         CHECK.end();
     }
 
@@ -131,5 +133,28 @@ public final class LayoutTest {
         CHECK.same("place of x", page.place(2, 0), -1);
         CHECK.same("place of y", page.place(4, 0), -1);
         CHECK.same("place of z", page.place(5, 0), 0);
+    }
+
+    /** What adoption or fostering has moved is laid out where it is now, and there alone. */
+    private static void movedElements() {
+        due("<b>1<p>2</b>3</p>4", "b{d:b}", 9, "0,0,9,4 0,0,9,1 0,1,9,2 0,1,9,1");
+        due("<t><b><d>x</b>y", "b{p:1}", 9, "0,0,9,1 0,0,9,1 0,1,9,0");
+        due("<b><d>x<d>y</b>z", "b{d:b;p:1}", 9,
+                "0,0,9,6 0,0,9,2 0,2,9,4 0,2,9,4 1,4,7,1");
+        due("<t>x<c>y</t>z", "", 9, "0,0,9,3 0,1,9,1 0,1,9,1 0,1,9,1");
+    }
+
+    private static void anotherLayout() {
+        PlainPage page = Check.page("<d>x", "d{m:1}");
+        CHECK.same("first layout", page.layout(9), 3);
+        CHECK.same("box in the first layout", Check.box(page, 1), "1,1,7,1");
+        CHECK.same("layout for another width", page.layout(5), 3);
+        CHECK.same("box for another width", Check.box(page, 1), "1,1,3,1");
+        Check.css(page, "d{d:n}");
+        CHECK.same("layout of the hidden", page.layout(9), 0);
+        CHECK.same("box of the hidden", Check.box(page, 1), "none");
+        CHECK.same("place of the hidden", page.place(2, 0), -1);
+        CHECK.same("lines of the hidden", page.lines(), 0);
+        CHECK.same("pixel of the hidden", page.pixel(1, 1), 0);
     }
 }

@@ -58,6 +58,10 @@ public final class SheetTest {
         rules("a{}}b{}", 1);
         rules("}{}a{}", 1);
         rules("a{c:1};b{}", 1);
+        rules("q>A{}q>{}", 1);
+        rules("q>a{}q>{}", 1);
+        rules("q>*{}q>{}", 1);
+        rules("q x{}q{}", 2);
     }
 
     private static void ruleLimit() {
@@ -178,6 +182,9 @@ public final class SheetTest {
         value("<bA>", "A{m:1}b{m:2;c:4}", 'c', 4);
         value("<b>", "b{m:1}i{m:2!}", 'm', 1);
         value("<d><b>", "d{c:5!}b{c:6}", 'c', 6);
+        value("<bA>", "A,{}b{m:1}A{m:2}", 'm', 2);
+        value("<b>", "b{m:1}b,{}*{m:2}", 'm', 1);
+        value("<b>", "A,{}b{m:1}", 'm', 1);
         value("<d><b>", "d{c:5;s:4;b:3;m:2;p:1;w:9;d:n}", 'c', 5);
     }
 
@@ -235,5 +242,20 @@ public final class SheetTest {
         CHECK.same("value behind the '}'", page.value(2, 'm'), 4);
         Check.html(page, "<dA>");
         CHECK.same("value of a later element", page.value(3, 'm'), 4);
+        valuesThatGo();
+    }
+
+    /** A rule that fitted fits no more when the element has moved. */
+    private static void valuesThatGo() {
+        PlainPage page = Check.page("<b><d>x", "b d{m:5;b:3;p:2;w:7;c:4;s:3;d:i}");
+        int[] before = {4, 3, 3, 'i', 5, 2, 7};
+        int[] behind = {1, 0, 1, 'b', 0, 0, -1};
+        for (int i = 0; i < 7; i++) {
+            CHECK.same("value before the move", page.value(2, "cbsdmpw".charAt(i)), before[i]);
+        }
+        Check.html(page, "</b>");
+        for (int i = 0; i < 7; i++) {
+            CHECK.same("value behind the move", page.value(2, "cbsdmpw".charAt(i)), behind[i]);
+        }
     }
 }

@@ -132,6 +132,9 @@ public final class TreeTest {
     private static void formatting() {
         due("<p><b>x<p>y", "p(b('x')) p(b('y'))", 3);
         due("<p><bAC>x<p>y", "p(bAC('x')) p(bAC('y'))", 3);
+        due("<p><b>x<p>yz", "p(b('x')) p(b('yz'))", 3);
+        due("<p><b>x<p>y</b>z", "p(b('x')) p(b('y') 'z')", 2);
+        due("<p><b>x<p>y<p>z", "p(b('x')) p(b('y')) p(b('z'))", 3);
         due("<p><b>x</p> ", "p(b('x')) b(' ')", 2);
         due("<p><b><i><s>x<p>y", "p(b(i(s('x')))) p(b(i(s('y'))))", 5);
         due("<p><b>x<p><d>", "p(b('x')) p() d()", 2);
