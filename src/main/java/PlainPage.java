@@ -414,8 +414,13 @@ public final class PlainPage {
             return null;
         }
 
-        Node table() {
-            return inReach('t', "");
+        Node topmost(int name) {
+            for (int i = size - 1; i >= 0; i--) {
+                if (items[i].name == name) {
+                    return items[i];
+                }
+            }
+            return null;
         }
 
         Node rowOfTable() {
@@ -561,7 +566,7 @@ public final class PlainPage {
         }
 
         private void startRowOrCell(int name, int classes) {
-            Node table = stack.table();
+            Node table = stack.topmost('t');
             if (table == null) {
                 return;
             }
@@ -586,7 +591,7 @@ public final class PlainPage {
                     stack.closeTo(stack.inReach('l', "uc"));
                     break;
                 case 't':
-                    stack.closeTo(stack.table());
+                    stack.closeTo(stack.topmost('t'));
                     break;
                 case 'r':
                     stack.closeTo(stack.rowOfTable());
@@ -667,7 +672,7 @@ public final class PlainPage {
         }
 
         private FormattingList theList() {
-            Node cell = stack.inReach('c', "");
+            Node cell = stack.topmost('c');
             return cell == null ? root.list : cell.list;
         }
 
