@@ -35,92 +35,77 @@ public final class SheetTest {
         CHECK.same("layout behind it", page.lines(), 1);
     }
 
-    private static void rules(String css, int rules) {
-        CHECK.same("rules of " + css, Check.page("", css).rules(), rules);
-    }
-
     private static void selectors() {
         String[] right = {"a", "*", "A", "*A", "aAB", "AA", " a ", "a b", "a  b   c d", "a>b",
             "a > b", "a> b", "a >b", "A A", "a>b c>d", "* *", "A>B", "  a  >  b  ", "zZ"};
         for (String selector : right) {
-            rules(selector + "{}", 1);
+            CHECK.rulesOf(selector + "{}", 1);
         }
         String[] wrong = {"", " ", "a b c d e", "a>b>c>d>e", "a>", ">a", "a>>b", "a> >b", "ab", "Ab",
             "a*", "**", "A*", "a,b", ".A", "}a", "a}", "a}b", "a;", "1", ">", "a b>", "a1"};
         for (String selector : wrong) {
-            rules(selector + "{c:1}", 0);
+            CHECK.rulesOf(selector + "{c:1}", 0);
         }
-        rules("a{", 0);
-        rules("a{c:1", 0);
-        rules("a{}b{}c{", 2);
-        rules("a{{}", 1);
-        rules("a{b{c}", 1);
-        rules("a{}}b{}", 1);
-        rules("}{}a{}", 1);
-        rules("a{c:1};b{}", 1);
-        rules("q>A{}q>{}", 1);
-        rules("q>a{}q>{}", 1);
-        rules("q>*{}q>{}", 1);
-        rules("q x{}q{}", 2);
+        CHECK.rulesOf("a{", 0);
+        CHECK.rulesOf("a{c:1", 0);
+        CHECK.rulesOf("a{}b{}c{", 2);
+        CHECK.rulesOf("a{{}", 1);
+        CHECK.rulesOf("a{b{c}", 1);
+        CHECK.rulesOf("a{}}b{}", 1);
+        CHECK.rulesOf("}{}a{}", 1);
+        CHECK.rulesOf("a{c:1};b{}", 1);
+        CHECK.rulesOf("q>A{}q>{}", 1);
+        CHECK.rulesOf("q>a{}q>{}", 1);
+        CHECK.rulesOf("q>*{}q>{}", 1);
+        CHECK.rulesOf("q x{}q{}", 2);
     }
 
     private static void ruleLimit() {
-        rules(Check.repeat("a{}", 12), 12);
-        rules(Check.repeat("a{}", 13), 12);
-        rules(Check.repeat("a{}", 40), 12);
-        rules(Check.repeat("1{}", 20) + Check.repeat("a{}", 11), 11);
-        value("<b>", Check.repeat("a{}", 11) + "b{c:5}", 'c', 5);
-        value("<b>", Check.repeat("a{}", 12) + "b{c:5}", 'c', 1);
-        value("<b>", Check.repeat("a{}", 11) + "1{}b{c:5}b{c:6}", 'c', 5);
-    }
-
-    /** Asks for a value of the last node. */
-    private static void value(String html, String css, char property, int want) {
-        PlainPage page = Check.page(html, css);
-        int got = page.value(page.nodes() - 1, property);
-        CHECK.same(property + " of the last of " + html + " by " + css, got, want);
-    }
-
-    private static void fits(String html, String selector, boolean is) {
-        value(html, selector + "{m:7}", 'm', is ? 7 : 0);
+        CHECK.rulesOf(Check.repeat("a{}", 12), 12);
+        CHECK.rulesOf(Check.repeat("a{}", 13), 12);
+        CHECK.rulesOf(Check.repeat("a{}", 40), 12);
+        CHECK.rulesOf(Check.repeat("1{}", 20) + Check.repeat("a{}", 11), 11);
+        CHECK.valueOf("<b>", Check.repeat("a{}", 11) + "b{c:5}", 'c', 5);
+        CHECK.valueOf("<b>", Check.repeat("a{}", 12) + "b{c:5}", 'c', 1);
+        CHECK.valueOf("<b>", Check.repeat("a{}", 11) + "1{}b{c:5}b{c:6}", 'c', 5);
     }
 
     private static void fitting() {
-        fits("<b>", "b", true);
-        fits("<b>", "i", false);
-        fits("<b>", "*", true);
-        fits("<bAC>", "A", true);
-        fits("<bAC>", "AC", true);
-        fits("<bAC>", "ABC", false);
-        fits("<bAC>", "bCA", true);
-        fits("<bAC>", "iA", false);
-        fits("<bAC>", "*C", true);
-        fits("<bZ>", "Z", true);
-        fits("<d><b>", "d b", true);
-        fits("<d><a><b>", "d b", true);
-        fits("<d><b>", "d>b", true);
-        fits("<d><a><b>", "d>b", false);
-        fits("<b>", "*>b", false);
-        fits("<b>", "* b", false);
-        fits("<b>", "b b", false);
-        fits("<b>", "b>b", false);
-        fits("<dA><d><b>", "dA b", true);
-        fits("<dA><d><b>", "dA>b", false);
-        fits("<d><a><x><b>", "d>a b", true);
-        fits("<d><x><a><b>", "d>a b", false);
-        fits("<d><a><x><a><b>", "d>a b", true);
-        fits("<d><a><x><a><b>", "d>a>b", false);
-        fits("<d><x><a><y><b>", "d a b", true);
-        fits("<d><x><a><y><b>", "d>x a>y b", false);
-        fits("<d><x><a><y><b>", "d>x a b", true);
-        fits("<d><x><a><y><b>", "d>x>a>y", false);
-        fits("<x><a><y><b>", "x>a>y>b", true);
-        fits("<a><x><a><x><y><b>", "a>x>y b", true);
-        fits("<t><d>x</t><b>", "t b", false);
+        CHECK.fit("<b>", "b", true);
+        CHECK.fit("<b>", "i", false);
+        CHECK.fit("<b>", "*", true);
+        CHECK.fit("<bAC>", "A", true);
+        CHECK.fit("<bAC>", "AC", true);
+        CHECK.fit("<bAC>", "ABC", false);
+        CHECK.fit("<bAC>", "bCA", true);
+        CHECK.fit("<bAC>", "iA", false);
+        CHECK.fit("<bAC>", "*C", true);
+        CHECK.fit("<bZ>", "Z", true);
+        CHECK.fit("<d><b>", "d b", true);
+        CHECK.fit("<d><a><b>", "d b", true);
+        CHECK.fit("<d><b>", "d>b", true);
+        CHECK.fit("<d><a><b>", "d>b", false);
+        CHECK.fit("<b>", "*>b", false);
+        CHECK.fit("<b>", "* b", false);
+        CHECK.fit("<b>", "b b", false);
+        CHECK.fit("<b>", "b>b", false);
+        CHECK.fit("<dA><d><b>", "dA b", true);
+        CHECK.fit("<dA><d><b>", "dA>b", false);
+        CHECK.fit("<d><a><x><b>", "d>a b", true);
+        CHECK.fit("<d><x><a><b>", "d>a b", false);
+        CHECK.fit("<d><a><x><a><b>", "d>a b", true);
+        CHECK.fit("<d><a><x><a><b>", "d>a>b", false);
+        CHECK.fit("<d><x><a><y><b>", "d a b", true);
+        CHECK.fit("<d><x><a><y><b>", "d>x a>y b", false);
+        CHECK.fit("<d><x><a><y><b>", "d>x a b", true);
+        CHECK.fit("<d><x><a><y><b>", "d>x>a>y", false);
+        CHECK.fit("<x><a><y><b>", "x>a>y>b", true);
+        CHECK.fit("<a><x><a><x><y><b>", "a>x>y b", true);
+        CHECK.fit("<t><d>x</t><b>", "t b", false);
     }
 
     private static void declared(String body, char property, int want) {
-        value("<z>", "z{" + body + "}", property, want);
+        CHECK.valueOf("<z>", "z{" + body + "}", property, want);
     }
 
     private static void declarations() {
@@ -161,63 +146,63 @@ public final class SheetTest {
     }
 
     private static void strongest() {
-        value("<b>", "b{m:1}b{m:2}", 'm', 2);
-        value("<b>", "b{m:1}*{m:2}", 'm', 1);
-        value("<bA>", "A{m:1}b{m:2}", 'm', 1);
-        value("<bA>", "bA{m:1}A{m:2}", 'm', 1);
-        value("<bA>", "A{m:1}*A{m:2}", 'm', 2);
-        value("<bAB>", "AB{m:1}bA{m:2}", 'm', 1);
-        value("<bA>", "AA{m:1}bA{m:2}", 'm', 1);
-        value("<d><a><bA>", "A{m:1}d a b{m:2}", 'm', 1);
-        value("<dA><bA>", "A A{m:1}bA{m:2}", 'm', 1);
-        value("<d><b>", "d b{m:1}b{m:2}", 'm', 1);
-        value("<d><b>", "d>b{m:1}d b{m:2}", 'm', 2);
-        value("<d><b>", "* b{m:1}b{m:2}", 'm', 2);
-        value("<bA>", "b{m:1!}A{m:2}", 'm', 1);
-        value("<bA>", "b{m:1!}A{m:2!}", 'm', 2);
-        value("<b>", "b{m:1!;m:2}", 'm', 1);
-        value("<b>", "b{m:1!;m:2!}", 'm', 2);
-        value("<b>", "b{m:1!}b{m:2!}b{m:3}", 'm', 2);
-        value("<b>", "b{m:1!;c:2}b{c:3;m:4}", 'c', 3);
-        value("<bA>", "A{m:1}b{m:2;c:4}", 'c', 4);
-        value("<b>", "b{m:1}i{m:2!}", 'm', 1);
-        value("<d><b>", "d{c:5!}b{c:6}", 'c', 6);
-        value("<bA>", "A,{}b{m:1}A{m:2}", 'm', 2);
-        value("<b>", "b{m:1}b,{}*{m:2}", 'm', 1);
-        value("<b>", "A,{}b{m:1}", 'm', 1);
-        value("<d><b>", "d{c:5;s:4;b:3;m:2;p:1;w:9;d:n}", 'c', 5);
+        CHECK.valueOf("<b>", "b{m:1}b{m:2}", 'm', 2);
+        CHECK.valueOf("<b>", "b{m:1}*{m:2}", 'm', 1);
+        CHECK.valueOf("<bA>", "A{m:1}b{m:2}", 'm', 1);
+        CHECK.valueOf("<bA>", "bA{m:1}A{m:2}", 'm', 1);
+        CHECK.valueOf("<bA>", "A{m:1}*A{m:2}", 'm', 2);
+        CHECK.valueOf("<bAB>", "AB{m:1}bA{m:2}", 'm', 1);
+        CHECK.valueOf("<bA>", "AA{m:1}bA{m:2}", 'm', 1);
+        CHECK.valueOf("<d><a><bA>", "A{m:1}d a b{m:2}", 'm', 1);
+        CHECK.valueOf("<dA><bA>", "A A{m:1}bA{m:2}", 'm', 1);
+        CHECK.valueOf("<d><b>", "d b{m:1}b{m:2}", 'm', 1);
+        CHECK.valueOf("<d><b>", "d>b{m:1}d b{m:2}", 'm', 2);
+        CHECK.valueOf("<d><b>", "* b{m:1}b{m:2}", 'm', 2);
+        CHECK.valueOf("<bA>", "b{m:1!}A{m:2}", 'm', 1);
+        CHECK.valueOf("<bA>", "b{m:1!}A{m:2!}", 'm', 2);
+        CHECK.valueOf("<b>", "b{m:1!;m:2}", 'm', 1);
+        CHECK.valueOf("<b>", "b{m:1!;m:2!}", 'm', 2);
+        CHECK.valueOf("<b>", "b{m:1!}b{m:2!}b{m:3}", 'm', 2);
+        CHECK.valueOf("<b>", "b{m:1!;c:2}b{c:3;m:4}", 'c', 3);
+        CHECK.valueOf("<bA>", "A{m:1}b{m:2;c:4}", 'c', 4);
+        CHECK.valueOf("<b>", "b{m:1}i{m:2!}", 'm', 1);
+        CHECK.valueOf("<d><b>", "d{c:5!}b{c:6}", 'c', 6);
+        CHECK.valueOf("<bA>", "A,{}b{m:1}A{m:2}", 'm', 2);
+        CHECK.valueOf("<b>", "b{m:1}b,{}*{m:2}", 'm', 1);
+        CHECK.valueOf("<b>", "A,{}b{m:1}", 'm', 1);
+        CHECK.valueOf("<d><b>", "d{c:5;s:4;b:3;m:2;p:1;w:9;d:n}", 'c', 5);
     }
 
     private static void defaults() {
-        value("<b>", "", 'c', 1);
-        value("<b>", "", 's', 1);
-        value("<b>", "", 'b', 0);
-        value("<b>", "", 'm', 0);
-        value("<b>", "", 'p', 0);
-        value("<b>", "", 'w', -1);
+        CHECK.valueOf("<b>", "", 'c', 1);
+        CHECK.valueOf("<b>", "", 's', 1);
+        CHECK.valueOf("<b>", "", 'b', 0);
+        CHECK.valueOf("<b>", "", 'm', 0);
+        CHECK.valueOf("<b>", "", 'p', 0);
+        CHECK.valueOf("<b>", "", 'w', -1);
         String css = "d{c:5;s:4;b:3;m:2;p:1;w:9;d:n}";
-        value("<d><a><b>", css, 'c', 5);
-        value("<d><a><b>", css, 's', 4);
-        value("<d><a><b>", css, 'b', 0);
-        value("<d><a><b>", css, 'm', 0);
-        value("<d><a><b>", css, 'p', 0);
-        value("<d><a><b>", css, 'w', -1);
-        value("<d><a><b>", css, 'd', 'i');
-        value("<d><a>x</d><b>", css, 'c', 1);
+        CHECK.valueOf("<d><a><b>", css, 'c', 5);
+        CHECK.valueOf("<d><a><b>", css, 's', 4);
+        CHECK.valueOf("<d><a><b>", css, 'b', 0);
+        CHECK.valueOf("<d><a><b>", css, 'm', 0);
+        CHECK.valueOf("<d><a><b>", css, 'p', 0);
+        CHECK.valueOf("<d><a><b>", css, 'w', -1);
+        CHECK.valueOf("<d><a><b>", css, 'd', 'i');
+        CHECK.valueOf("<d><a>x</d><b>", css, 'c', 1);
         for (String tag : "p d u l h t".split(" ")) {
-            value("<" + tag + ">", "", 'd', 'b');
+            CHECK.valueOf("<" + tag + ">", "", 'd', 'b');
         }
         for (String tag : "p d u l h".split(" ")) {
-            value("<" + tag + ">", "*{d:i}", 'd', 'i');
+            CHECK.valueOf("<" + tag + ">", "*{d:i}", 'd', 'i');
         }
         for (String tag : "b i s k a z".split(" ")) {
-            value("<" + tag + ">", "", 'd', 'i');
+            CHECK.valueOf("<" + tag + ">", "", 'd', 'i');
         }
         for (String html : "<t> <t><r> <t><c>".split(" ")) {
-            value(html, "", 'd', 'b');
-            value(html, "*{d:i}", 'd', 'b');
-            value(html, "*{d:i!}", 'd', 'b');
-            value(html, "*{d:n}", 'd', 'n');
+            CHECK.valueOf(html, "", 'd', 'b');
+            CHECK.valueOf(html, "*{d:i}", 'd', 'b');
+            CHECK.valueOf(html, "*{d:i!}", 'd', 'b');
+            CHECK.valueOf(html, "*{d:n}", 'd', 'n');
         }
     }
 

@@ -16,12 +16,6 @@ public final class TreeTest {
         CHECK.end();
     }
 
-    private static void due(String html, String tree, int open) {
-        PlainPage page = Check.page(html, "");
-        CHECK.same(html, Check.tree(page), tree);
-        CHECK.same("open of " + html, page.open(), open);
-    }
-
     private static void questions() {
         PlainPage page = Check.page("<dA><pBZ>x</d><k>", "");
         int[][] wanted = {{0, -1, 0}, {'d', 0, 1}, {'p', 1, 2 + (1 << 25)}, {1, 2, 0}, {'k', 0, 0}};
@@ -39,150 +33,150 @@ public final class TreeTest {
     }
 
     private static void blocksAndParagraphs() {
-        due("<p>a<p>b", "p('a') p('b')", 2);
+        CHECK.treeOf("<p>a<p>b", "p('a') p('b')", 2);
         for (String block : "d u l t".split(" ")) {
-            due("<p>a<x><" + block + ">", "p('a' x()) " + block + "()", 2);
+            CHECK.treeOf("<p>a<x><" + block + ">", "p('a' x()) " + block + "()", 2);
         }
-        due("<p>a<h>b", "p('a') h() 'b'", 1);
-        due("<p>a<x>b<k>c", "p('a' x('b' k() 'c'))", 3);
-        due("<d>a<d>b", "d('a' d('b'))", 3);
-        due("<d><p>a<d>b", "d(p('a') d('b'))", 3);
-        due("<k><h>", "k() h()", 1);
-        due("<z>a<q>b", "z('a' q('b'))", 3);
+        CHECK.treeOf("<p>a<h>b", "p('a') h() 'b'", 1);
+        CHECK.treeOf("<p>a<x>b<k>c", "p('a' x('b' k() 'c'))", 3);
+        CHECK.treeOf("<d>a<d>b", "d('a' d('b'))", 3);
+        CHECK.treeOf("<d><p>a<d>b", "d(p('a') d('b'))", 3);
+        CHECK.treeOf("<k><h>", "k() h()", 1);
+        CHECK.treeOf("<z>a<q>b", "z('a' q('b'))", 3);
     }
 
     private static void listItems() {
-        due("<l>a<l>b", "l('a') l('b')", 2);
-        due("<u><l>a<l>b", "u(l('a') l('b'))", 3);
-        due("<u><l><u><l>a", "u(l(u(l('a'))))", 5);
-        due("<u><l>a<u>b<u>c<l>d", "u(l('a' u('b' u('c' l('d')))))", 6);
-        due("<l><d>a<l>b", "l(d('a')) l('b')", 2);
-        due("<l><p>a<l>b", "l(p('a')) l('b')", 2);
-        due("<l>a<t><c><l>b", "l('a' t(r(c(l('b')))))", 6);
-        due("<t><c><l>a<l>b", "t(r(c(l('a') l('b'))))", 5);
+        CHECK.treeOf("<l>a<l>b", "l('a') l('b')", 2);
+        CHECK.treeOf("<u><l>a<l>b", "u(l('a') l('b'))", 3);
+        CHECK.treeOf("<u><l><u><l>a", "u(l(u(l('a'))))", 5);
+        CHECK.treeOf("<u><l>a<u>b<u>c<l>d", "u(l('a' u('b' u('c' l('d')))))", 6);
+        CHECK.treeOf("<l><d>a<l>b", "l(d('a')) l('b')", 2);
+        CHECK.treeOf("<l><p>a<l>b", "l(p('a')) l('b')", 2);
+        CHECK.treeOf("<l>a<t><c><l>b", "l('a' t(r(c(l('b')))))", 6);
+        CHECK.treeOf("<t><c><l>a<l>b", "t(r(c(l('a') l('b'))))", 5);
     }
 
     private static void tables() {
-        due("<r>x<c>y", "'xy'", 1);
-        due("<p>x<r>y", "p('xy')", 2);
-        due("<t><r><c>a<c>b<r><c>d", "t(r(c('a') c('b')) r(c('d')))", 4);
-        due("<t><c>a", "t(r(c('a')))", 4);
-        due("<t><cA>a<cB>b", "t(r(cA('a') cB('b')))", 4);
-        due("<t><rA><c><d><x>a<c>b", "t(rA(c(d(x('a'))) c('b')))", 4);
-        due("<t><c><d>a<rB>", "t(r(c(d('a'))) rB())", 3);
-        due("<t><c>a<t><c>b<c>d", "t(r(c('a' t(r(c('b') c('d'))))))", 7);
-        due("<t><c>a<t><r>b", "t(r(c('ab' t(r()))))", 6);
-        due("<t><c>a<t>b<c>d", "t(r(c('ab' t(r(c('d'))))))", 7);
-        due("<t><c>a<t></t><c>b", "t(r(c('a' t()) c('b')))", 4);
+        CHECK.treeOf("<r>x<c>y", "'xy'", 1);
+        CHECK.treeOf("<p>x<r>y", "p('xy')", 2);
+        CHECK.treeOf("<t><r><c>a<c>b<r><c>d", "t(r(c('a') c('b')) r(c('d')))", 4);
+        CHECK.treeOf("<t><c>a", "t(r(c('a')))", 4);
+        CHECK.treeOf("<t><cA>a<cB>b", "t(r(cA('a') cB('b')))", 4);
+        CHECK.treeOf("<t><rA><c><d><x>a<c>b", "t(rA(c(d(x('a'))) c('b')))", 4);
+        CHECK.treeOf("<t><c><d>a<rB>", "t(r(c(d('a'))) rB())", 3);
+        CHECK.treeOf("<t><c>a<t><c>b<c>d", "t(r(c('a' t(r(c('b') c('d'))))))", 7);
+        CHECK.treeOf("<t><c>a<t><r>b", "t(r(c('ab' t(r()))))", 6);
+        CHECK.treeOf("<t><c>a<t>b<c>d", "t(r(c('ab' t(r(c('d'))))))", 7);
+        CHECK.treeOf("<t><c>a<t></t><c>b", "t(r(c('a' t()) c('b')))", 4);
     }
 
     private static void fostering() {
-        due("<t>x<r>y<c>z", "'xy' t(r(c('z')))", 4);
-        due("<t> <r> <c> ", "t(r(c(' ')))", 4);
-        due("a<t>b", "'ab' t()", 2);
-        due("<t>x y", "'xy' t()", 2);
-        due("<d><t>x</t>y", "d('x' t() 'y')", 2);
-        due("<t><d>x", "d('x') t()", 3);
-        due("<t><a>x<c>y", "a('x') t(r(c('y')))", 4);
-        due("<t><k>x", "k() 'x' t()", 2);
-        due("<t><h>x", "h() 'x' t()", 2);
-        due("<t><t>x", "'x' t() t()", 3);
-        due("<t><p>a<p>b", "p('a') p('b') t()", 3);
-        due("<t><r><x>a<r>b", "x('a') 'b' t(r() r())", 3);
-        due("<t></p>", "p() t()", 2);
-        due("<t><c>x</c>y", "'y' t(r(c('x')))", 3);
-        due("<t><b>x<r>y", "b('x') b('y') t(r())", 4);
-        due("<b>x<t>y", "b('xy' t())", 3);
+        CHECK.treeOf("<t>x<r>y<c>z", "'xy' t(r(c('z')))", 4);
+        CHECK.treeOf("<t> <r> <c> ", "t(r(c(' ')))", 4);
+        CHECK.treeOf("a<t>b", "'ab' t()", 2);
+        CHECK.treeOf("<t>x y", "'xy' t()", 2);
+        CHECK.treeOf("<d><t>x</t>y", "d('x' t() 'y')", 2);
+        CHECK.treeOf("<t><d>x", "d('x') t()", 3);
+        CHECK.treeOf("<t><a>x<c>y", "a('x') t(r(c('y')))", 4);
+        CHECK.treeOf("<t><k>x", "k() 'x' t()", 2);
+        CHECK.treeOf("<t><h>x", "h() 'x' t()", 2);
+        CHECK.treeOf("<t><t>x", "'x' t() t()", 3);
+        CHECK.treeOf("<t><p>a<p>b", "p('a') p('b') t()", 3);
+        CHECK.treeOf("<t><r><x>a<r>b", "x('a') 'b' t(r() r())", 3);
+        CHECK.treeOf("<t></p>", "p() t()", 2);
+        CHECK.treeOf("<t><c>x</c>y", "'y' t(r(c('x')))", 3);
+        CHECK.treeOf("<t><b>x<r>y", "b('x') b('y') t(r())", 4);
+        CHECK.treeOf("<b>x<t>y", "b('xy' t())", 3);
     }
 
     private static void endTags() {
-        due("x</p>y", "'x' p() 'y'", 1);
-        due("<p>x<a>y</p>z", "p('x' a('y')) 'z'", 1);
-        due("<pA>x</pB></pC>", "pA('x') p()", 1);
-        due("<d><a>x</d>y", "d(a('x')) 'y'", 1);
-        due("<u><d>x</u>y", "u(d('x')) 'y'", 1);
-        due("<d></u>x", "d('x')", 2);
-        due("<d><t><c></d>x", "d(t(r(c('x'))))", 5);
-        due("<u><t><c></u>x", "u(t(r(c('x'))))", 5);
-        due("<d><d></d>x", "d(d() 'x')", 2);
-        due("<l><d></l>x", "l(d()) 'x'", 1);
-        due("<l><u></l>x", "l(u('x'))", 3);
-        due("<l><t><c></l>x", "l(t(r(c('x'))))", 5);
-        due("<t><c><d></t>x", "t(r(c(d()))) 'x'", 1);
-        due("</t>x", "'x'", 1);
-        due("<t><r></r>x", "'x' t(r())", 2);
-        due("<t><c><d></r>x", "'x' t(r(c(d())))", 2);
-        due("<t><c><t></r>x", "t(r(c('x' t())))", 5);
-        due("<t></r>x", "'x' t()", 2);
-        due("</r></c>x", "'x'", 1);
-        due("<t><c><d></c>x", "'x' t(r(c(d())))", 3);
-        due("<t><c><t></c>x", "t(r(c('x' t())))", 5);
-        due("<d></h></k>x", "d('x')", 2);
-        due("<a><x>y</a>z", "a(x('y')) 'z'", 1);
-        due("<a><a></a>y", "a(a() 'y')", 2);
-        due("</a>y", "'y'", 1);
+        CHECK.treeOf("x</p>y", "'x' p() 'y'", 1);
+        CHECK.treeOf("<p>x<a>y</p>z", "p('x' a('y')) 'z'", 1);
+        CHECK.treeOf("<pA>x</pB></pC>", "pA('x') p()", 1);
+        CHECK.treeOf("<d><a>x</d>y", "d(a('x')) 'y'", 1);
+        CHECK.treeOf("<u><d>x</u>y", "u(d('x')) 'y'", 1);
+        CHECK.treeOf("<d></u>x", "d('x')", 2);
+        CHECK.treeOf("<d><t><c></d>x", "d(t(r(c('x'))))", 5);
+        CHECK.treeOf("<u><t><c></u>x", "u(t(r(c('x'))))", 5);
+        CHECK.treeOf("<d><d></d>x", "d(d() 'x')", 2);
+        CHECK.treeOf("<l><d></l>x", "l(d()) 'x'", 1);
+        CHECK.treeOf("<l><u></l>x", "l(u('x'))", 3);
+        CHECK.treeOf("<l><t><c></l>x", "l(t(r(c('x'))))", 5);
+        CHECK.treeOf("<t><c><d></t>x", "t(r(c(d()))) 'x'", 1);
+        CHECK.treeOf("</t>x", "'x'", 1);
+        CHECK.treeOf("<t><r></r>x", "'x' t(r())", 2);
+        CHECK.treeOf("<t><c><d></r>x", "'x' t(r(c(d())))", 2);
+        CHECK.treeOf("<t><c><t></r>x", "t(r(c('x' t())))", 5);
+        CHECK.treeOf("<t></r>x", "'x' t()", 2);
+        CHECK.treeOf("</r></c>x", "'x'", 1);
+        CHECK.treeOf("<t><c><d></c>x", "'x' t(r(c(d())))", 3);
+        CHECK.treeOf("<t><c><t></c>x", "t(r(c('x' t())))", 5);
+        CHECK.treeOf("<d></h></k>x", "d('x')", 2);
+        CHECK.treeOf("<a><x>y</a>z", "a(x('y')) 'z'", 1);
+        CHECK.treeOf("<a><a></a>y", "a(a() 'y')", 2);
+        CHECK.treeOf("</a>y", "'y'", 1);
         for (String block : "p d u l".split(" ")) {
-            due("<a><" + block + "></a>y", "a(" + block + "('y'))", 3);
+            CHECK.treeOf("<a><" + block + "></a>y", "a(" + block + "('y'))", 3);
         }
-        due("<a><t></a>y", "a('y' t())", 3);
-        due("<a><t><r></a>y", "a('y' t(r()))", 4);
-        due("<a><t><c></a>y", "a(t(r(c('y'))))", 5);
+        CHECK.treeOf("<a><t></a>y", "a('y' t())", 3);
+        CHECK.treeOf("<a><t><r></a>y", "a('y' t(r()))", 4);
+        CHECK.treeOf("<a><t><c></a>y", "a(t(r(c('y'))))", 5);
     }
 
     private static void formatting() {
-        due("<p><b>x<p>y", "p(b('x')) p(b('y'))", 3);
-        due("<p><bAC>x<p>y", "p(bAC('x')) p(bAC('y'))", 3);
-        due("<p><b>x<p>yz", "p(b('x')) p(b('yz'))", 3);
-        due("<p><b>x<p>y</b>z", "p(b('x')) p(b('y') 'z')", 2);
-        due("<p><b>x<p>y<p>z", "p(b('x')) p(b('y')) p(b('z'))", 3);
-        due("<p><b>x</p> ", "p(b('x')) b(' ')", 2);
-        due("<p><b><i><s>x<p>y", "p(b(i(s('x')))) p(b(i(s('y'))))", 5);
-        due("<p><b>x<p><d>", "p(b('x')) p() d()", 2);
-        due("<p><b>x<p><k>", "p(b('x')) p(b(k()))", 3);
-        due("<p><b>x<p><a>", "p(b('x')) p(b(a()))", 4);
-        due("<p><b>x<p></p>", "p(b('x')) p()", 1);
-        due("<p><b>x</p><i>y", "p(b('x')) b(i('y'))", 3);
-        due("<b>x</b>y", "b('x') 'y'", 1);
-        due("<b><i>x</b>y", "b(i('x')) i('y')", 2);
-        due("<b><i>x</b></i>y", "b(i('x')) 'y'", 1);
-        due("<b><a>x</b>y", "b(a('x')) 'y'", 1);
-        due("<p><b>x</p></b>y", "p(b('x')) 'y'", 1);
-        due("<p><b>x</p></b></b>y", "p(b('x')) 'y'", 1);
-        due("<bA><bB>x</b>y", "bA(bB('x') 'y')", 2);
-        due("<p></b>x", "p('x')", 2);
-        due("<b><t></b>x", "b('x' t())", 3);
-        due("<p><b><b><b><b><b>x<p>y", "p(b(b(b(b(b('x')))))) p(b(b(b(b('y')))))", 6);
-        due("<p><b><i><i><i><i>x<p>y", "p(b(i(i(i(i('x')))))) p(i(i(i(i('y')))))", 6);
-        due("<sA><s><s><s><s></s></s></s></s>x", "sA(s(s(s(s()))) 'x')", 2);
-        due("<sA><s><s><s><s></s></s></s></s></s>x", "sA(s(s(s(s())))) 'x'", 1);
-        due("<sA><s><s><s><s></s></s></s></s><d></s>x", "sA(s(s(s(s()))) d('x'))", 3);
+        CHECK.treeOf("<p><b>x<p>y", "p(b('x')) p(b('y'))", 3);
+        CHECK.treeOf("<p><bAC>x<p>y", "p(bAC('x')) p(bAC('y'))", 3);
+        CHECK.treeOf("<p><b>x<p>yz", "p(b('x')) p(b('yz'))", 3);
+        CHECK.treeOf("<p><b>x<p>y</b>z", "p(b('x')) p(b('y') 'z')", 2);
+        CHECK.treeOf("<p><b>x<p>y<p>z", "p(b('x')) p(b('y')) p(b('z'))", 3);
+        CHECK.treeOf("<p><b>x</p> ", "p(b('x')) b(' ')", 2);
+        CHECK.treeOf("<p><b><i><s>x<p>y", "p(b(i(s('x')))) p(b(i(s('y'))))", 5);
+        CHECK.treeOf("<p><b>x<p><d>", "p(b('x')) p() d()", 2);
+        CHECK.treeOf("<p><b>x<p><k>", "p(b('x')) p(b(k()))", 3);
+        CHECK.treeOf("<p><b>x<p><a>", "p(b('x')) p(b(a()))", 4);
+        CHECK.treeOf("<p><b>x<p></p>", "p(b('x')) p()", 1);
+        CHECK.treeOf("<p><b>x</p><i>y", "p(b('x')) b(i('y'))", 3);
+        CHECK.treeOf("<b>x</b>y", "b('x') 'y'", 1);
+        CHECK.treeOf("<b><i>x</b>y", "b(i('x')) i('y')", 2);
+        CHECK.treeOf("<b><i>x</b></i>y", "b(i('x')) 'y'", 1);
+        CHECK.treeOf("<b><a>x</b>y", "b(a('x')) 'y'", 1);
+        CHECK.treeOf("<p><b>x</p></b>y", "p(b('x')) 'y'", 1);
+        CHECK.treeOf("<p><b>x</p></b></b>y", "p(b('x')) 'y'", 1);
+        CHECK.treeOf("<bA><bB>x</b>y", "bA(bB('x') 'y')", 2);
+        CHECK.treeOf("<p></b>x", "p('x')", 2);
+        CHECK.treeOf("<b><t></b>x", "b('x' t())", 3);
+        CHECK.treeOf("<p><b><b><b><b><b>x<p>y", "p(b(b(b(b(b('x')))))) p(b(b(b(b('y')))))", 6);
+        CHECK.treeOf("<p><b><i><i><i><i>x<p>y", "p(b(i(i(i(i('x')))))) p(i(i(i(i('y')))))", 6);
+        CHECK.treeOf("<sA><s><s><s><s></s></s></s></s>x", "sA(s(s(s(s()))) 'x')", 2);
+        CHECK.treeOf("<sA><s><s><s><s></s></s></s></s></s>x", "sA(s(s(s(s())))) 'x'", 1);
+        CHECK.treeOf("<sA><s><s><s><s></s></s></s></s><d></s>x", "sA(s(s(s(s()))) d('x'))", 3);
     }
 
     private static void listsOfCells() {
-        due("<b>x<t><c>y", "b('x' t(r(c('y'))))", 5);
-        due("<b>x<t><c>y</b>z", "b('x' t(r(c('yz'))))", 5);
-        due("<t><b><c>a</t>d", "b() t(r(c('a'))) b('d')", 2);
-        due("<t><c><b>x<c>y", "t(r(c(b('x')) c('y')))", 4);
-        due("<t><c><b>x</t>y", "t(r(c(b('x')))) 'y'", 1);
-        due("<t><c><p><b>x<p>y", "t(r(c(p(b('x')) p(b('y')))))", 6);
-        due("<t><c><b>x<t><c>y</t>z", "t(r(c(b('x' t(r(c('y'))) 'z'))))", 5);
+        CHECK.treeOf("<b>x<t><c>y", "b('x' t(r(c('y'))))", 5);
+        CHECK.treeOf("<b>x<t><c>y</b>z", "b('x' t(r(c('yz'))))", 5);
+        CHECK.treeOf("<t><b><c>a</t>d", "b() t(r(c('a'))) b('d')", 2);
+        CHECK.treeOf("<t><c><b>x<c>y", "t(r(c(b('x')) c('y')))", 4);
+        CHECK.treeOf("<t><c><b>x</t>y", "t(r(c(b('x')))) 'y'", 1);
+        CHECK.treeOf("<t><c><p><b>x<p>y", "t(r(c(p(b('x')) p(b('y')))))", 6);
+        CHECK.treeOf("<t><c><b>x<t><c>y</t>z", "t(r(c(b('x' t(r(c('y'))) 'z'))))", 5);
     }
 
     private static void adoption() {
-        due("<b>1<p>2</b>3", "b('1') p(b('2') '3')", 2);
-        due("<bA>1<p>2</b>3</p>4", "bA('1') p(bA('2') '3') '4'", 1);
-        due("<b><i><p>x</b>y", "b(i()) p(b('x') i('y'))", 3);
-        due("<b><d><a>x</b>y", "b() d(b(a('xy')))", 3);
-        due("<b><d>x<d>y</b>z", "b() d(b('x' d('yz')))", 3);
-        due("<x><b><d>y</b>", "x(b() d(b('y')))", 3);
-        due("<t><b><d>x</b>y", "b() d(b('x') 'y') t()", 3);
-        due("<t><r><b><d>x</b>y", "b() d(b('x') 'y') t(r())", 4);
-        due("<b><d></b>x", "b() d(b() 'x')", 2);
-        due("<b><i><d><s>x</b>y</s>z", "b(i()) d(b(s('xy')) i('z'))", 3);
-        due("<b><i><d><s>x</b></d>z", "b(i()) d(b(s('x'))) i(s('z'))", 3);
-        due("<b><d>x<b>y</b></b>z", "b() d(b('x' b('y')) 'z')", 2);
-        due("<b><d>x</b></d></b>y", "b() d(b('x')) 'y'", 1);
-        due("<t><c><b><d>x</b>y", "t(r(c(b() d(b('x') 'y'))))", 5);
+        CHECK.treeOf("<b>1<p>2</b>3", "b('1') p(b('2') '3')", 2);
+        CHECK.treeOf("<bA>1<p>2</b>3</p>4", "bA('1') p(bA('2') '3') '4'", 1);
+        CHECK.treeOf("<b><i><p>x</b>y", "b(i()) p(b('x') i('y'))", 3);
+        CHECK.treeOf("<b><d><a>x</b>y", "b() d(b(a('xy')))", 3);
+        CHECK.treeOf("<b><d>x<d>y</b>z", "b() d(b('x' d('yz')))", 3);
+        CHECK.treeOf("<x><b><d>y</b>", "x(b() d(b('y')))", 3);
+        CHECK.treeOf("<t><b><d>x</b>y", "b() d(b('x') 'y') t()", 3);
+        CHECK.treeOf("<t><r><b><d>x</b>y", "b() d(b('x') 'y') t(r())", 4);
+        CHECK.treeOf("<b><d></b>x", "b() d(b() 'x')", 2);
+        CHECK.treeOf("<b><i><d><s>x</b>y</s>z", "b(i()) d(b(s('xy')) i('z'))", 3);
+        CHECK.treeOf("<b><i><d><s>x</b></d>z", "b(i()) d(b(s('x'))) i(s('z'))", 3);
+        CHECK.treeOf("<b><d>x<b>y</b></b>z", "b() d(b('x' b('y')) 'z')", 2);
+        CHECK.treeOf("<b><d>x</b></d></b>y", "b() d(b('x')) 'y'", 1);
+        CHECK.treeOf("<t><c><b><d>x</b>y", "t(r(c(b() d(b('x') 'y'))))", 5);
     }
 
     private static void broken() {
@@ -194,9 +188,9 @@ public final class TreeTest {
         breaks(Check.repeat("<h>", 21) + "<t>", "<c>");
         breaks(Check.repeat("<h>", 23), "&l;");
         breaks(Check.repeat("<h>", 23), "&lx");
-        due(Check.repeat("<h>", 22) + "x", Check.repeat("h() ", 22) + "'x'", 1);
-        due(Check.repeat("<h>", 22) + "x</d></b><!c>y", Check.repeat("h() ", 22) + "'xy'", 1);
-        due(Check.repeat("<h>", 21) + "<t> ", Check.repeat("h() ", 21) + "t()", 2);
+        CHECK.treeOf(Check.repeat("<h>", 22) + "x", Check.repeat("h() ", 22) + "'x'", 1);
+        CHECK.treeOf(Check.repeat("<h>", 22) + "x</d></b><!c>y", Check.repeat("h() ", 22) + "'xy'", 1);
+        CHECK.treeOf(Check.repeat("<h>", 21) + "<t> ", Check.repeat("h() ", 21) + "t()", 2);
     }
 
     private static void breaks(String full, String more) {
