@@ -124,24 +124,33 @@ final class Check {
 
     /** The tree as a text, such as p('a' bAC('x')) for "<p>a<b AC>x". */
     static String tree(PlainPage page) {
-        return page.nodes() == PlainPage.NONE ? "broken" : children(page, 0);
+        int nodes = page.nodes();
+        if (nodes == PlainPage.NONE) {
+            return "broken";
+        }
+        int[] parents = new int[nodes];
+        for (int n = 0; n < nodes; n++) {
+            parents[n] = page.parent(n);
+        }
+        return children(page, parents, 0);
     }
 
-    private static String children(PlainPage page, int parent) {
+    private static String children(PlainPage page, int[] parents, int parent) {
         StringBuilder out = new StringBuilder();
-        for (int n = parent + 1; n < page.nodes(); n++) {
-            if (page.parent(n) == parent) {
-                out.append(out.length() > 0 ? " " : "").append(node(page, n));
+        for (int n = parent + 1; n < parents.length; n++) {
+            if (parents[n] == parent) {
+                out.append(out.length() > 0 ? " " : "").append(node(page, parents, n));
             }
         }
         return out.toString();
     }
 
-    private static String node(PlainPage page, int n) {
-        if (page.name(n) == 1) {
+    private static String node(PlainPage page, int[] parents, int n) {
+        int name = page.name(n);
+        if (name == 1) {
             return "'" + letters(page, n) + "'";
         }
-        return (char) page.name(n) + classes(page.classes(n)) + "(" + children(page, n) + ")";
+        return (char) name + classes(page.classes(n)) + "(" + children(page, parents, n) + ")";
     }
 
     static String letters(PlainPage page, int n) {
